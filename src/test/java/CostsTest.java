@@ -1,0 +1,123 @@
+/** Promises 28 to 31: costs, dearest, bargain, days. */
+public final class CostsTest {
+    private static final int BAD = SevenOnStrike.BAD;
+    private static final int[] WRONG = {-1, Integer.MIN_VALUE, Integer.MAX_VALUE};
+
+    public static void main(String[] args) {
+        costs();
+        dearest();
+        bargain();
+        days();
+        daysChangeNothing();
+        wrongNumbers();
+        Due.end();
+    }
+
+    private static void costs() {
+        SevenOnStrike x = Due.laid("x0;x7;");
+        Due.is("costs(0, 0)", x.costs(0, 0), 1);
+        Due.is("costs(0, 9)", x.costs(0, 9), 1);
+        Due.is("costs(0, 10)", x.costs(0, 10), 2);
+        Due.is("costs(0, 99)", x.costs(0, 99), 1 + 8);
+        Due.is("costs(7, 6)", x.costs(7, 6), 0);
+        Due.is("costs(7, 7)", x.costs(7, 7), 1);
+        Due.is("costs(7, 99)", x.costs(7, 99), 1 + 8 + 9);
+        Due.is("costs(7, 9999)", x.costs(7, 9999), 9 + 81 + 729 + 6561 - 8 - 64 - 512 - 4096);
+        Due.is("costs(1, 9999)", x.costs(1, 9999), 0);
+    }
+
+    private static void dearestIs(SevenOnStrike x, int n, int which, int cost) {
+        Due.is("dearest(" + n + ", 0)", x.dearest(n, 0), which);
+        Due.is("dearest(" + n + ", 1)", x.dearest(n, 1), cost);
+    }
+
+    private static void dearest() {
+        dearestIs(Due.laid(""), 9999, 0, 0);
+        SevenOnStrike x = Due.laid("x5;x3;x0;");
+        dearestIs(x, 0, 0, 1);
+        dearestIs(x, 9, 0, 1);
+        dearestIs(x, 99, 3, 8 + 64 - 7 - 49);
+        dearestIs(x, 9999, 3, x.costs(3, 9999));
+        dearestIs(Due.laid("x9;"), 8, 0, 0);
+        dearestIs(Due.laid("x9;"), 9, 9, 1);
+        dearestIs(Due.laid("x8;x9;"), 9, 8, 1);
+        dearestIs(Due.laid("x1;x9;"), 19, 1, 1 + 9);
+    }
+
+    private static void bargain() {
+        SevenOnStrike x = Due.laid("");
+        Due.is("bargain(7, 0, 99)", x.bargain(7, 0, 99), 10000 + 9);
+        Due.is("bargain(0, 7, 99)", x.bargain(0, 7, 99), 10000 - 9);
+        Due.is("bargain(0, 1, 0)", x.bargain(0, 1, 0), 10001);
+        Due.is("bargain(1, 0, 0)", x.bargain(1, 0, 0), 9999);
+        Due.is("bargain(8, 9, 9999)", x.bargain(8, 9, 9999), 10000);
+        Due.is("bargain(8, 9, 8)", x.bargain(8, 9, 8), 10001);
+        SevenOnStrike y = Due.laid("x8;x3;");
+        Due.is("both are seen anew", y.bargain(8, 9, 8), 10001);
+        Due.is("others strike as now", y.bargain(1, 2, 19), 10000 + 14 - 7);
+        Due.is("count(0)", y.count(0), 2);
+        Due.is("count(5)", y.count(5), 0);
+    }
+
+    /** Each day drawn once more, with no strike counted but by its writing. */
+    private static void days() {
+        SevenOnStrike x = new SevenOnStrike();
+        for (int z : new int[] {0, 1, 2, 77, 1234, 5000, 9998, 9999}) {
+            boolean[] strikes = new boolean[10];
+            strikes[7] = true;
+            int without = 0;
+            for (int d = 0; d < 50; d++) {
+                long one = 7919L * z + 6151L * d + 1;
+                int f = (int) (((one * one) % 65521 / 4) % 10);
+                strikes[f] = !strikes[f];
+                without += strikes[7] ? 1 : 0;
+                Due.is("days(" + z + ", " + (d + 1) + ", 0)", x.days(z, d + 1, 0), saidWithout(strikes));
+                Due.is("days(" + z + ", " + (d + 1) + ", 1)", x.days(z, d + 1, 1), without);
+            }
+        }
+    }
+
+    private static int saidWithout(boolean[] strikes) {
+        int can = 0;
+        for (int n = 0; n <= 999; n++) {
+            can += String.valueOf(n).chars().noneMatch(f -> strikes[f - '0']) ? 1 : 0;
+        }
+        return can;
+    }
+
+    private static void daysChangeNothing() {
+        SevenOnStrike x = new SevenOnStrike();
+        x.days(9999, 50, 0);
+        Due.is("count(0)", x.count(0), 1);
+        Due.is("figure(7, 0)", x.figure(7, 0), 1);
+        Due.is("count(5)", x.count(5), 0);
+    }
+
+    private static void wrongNumbers() {
+        SevenOnStrike x = new SevenOnStrike();
+        Due.is("costs(10, 1)", x.costs(10, 1), BAD);
+        Due.is("costs(1, 10000)", x.costs(1, 10000), BAD);
+        Due.is("dearest(10000, 0)", x.dearest(10000, 0), BAD);
+        Due.is("dearest(1, 2)", x.dearest(1, 2), BAD);
+        Due.is("bargain(1, 1, 1)", x.bargain(1, 1, 1), BAD);
+        Due.is("bargain(10, 1, 1)", x.bargain(10, 1, 1), BAD);
+        Due.is("bargain(1, 10, 1)", x.bargain(1, 10, 1), BAD);
+        Due.is("bargain(1, 2, 10000)", x.bargain(1, 2, 10000), BAD);
+        Due.is("days(10000, 1, 0)", x.days(10000, 1, 0), BAD);
+        Due.is("days(1, 0, 0)", x.days(1, 0, 0), BAD);
+        Due.is("days(1, 51, 0)", x.days(1, 51, 0), BAD);
+        Due.is("days(1, 1, 2)", x.days(1, 1, 2), BAD);
+        for (int n : WRONG) {
+            Due.is("costs(" + n + ", 1)", x.costs(n, 1), BAD);
+            Due.is("costs(1, " + n + ")", x.costs(1, n), BAD);
+            Due.is("dearest(" + n + ", 0)", x.dearest(n, 0), BAD);
+            Due.is("dearest(1, " + n + ")", x.dearest(1, n), BAD);
+            Due.is("bargain(" + n + ", 1, 1)", x.bargain(n, 1, 1), BAD);
+            Due.is("bargain(1, " + n + ", 1)", x.bargain(1, n, 1), BAD);
+            Due.is("bargain(1, 2, " + n + ")", x.bargain(1, 2, n), BAD);
+            Due.is("days(" + n + ", 1, 0)", x.days(n, 1, 0), BAD);
+            Due.is("days(1, " + n + ", 0)", x.days(1, n, 0), BAD);
+            Due.is("days(1, 1, " + n + ")", x.days(1, 1, n), BAD);
+        }
+    }
+}
