@@ -452,12 +452,14 @@ public final class SevenOnStrike {
     /** What a text tells, read item by item. */
     private static final class Told {
         static final int MOST_COINS = 6;
+        private static final int PLAIN_SIDES = 6;
+        private static final int PLAIN_WEEK = 7;
 
         final Figures figures = new Figures();
         final int[] coins = new int[MOST_COINS];
         int coinCount = 0;
-        int sides = 6;
-        int week = 7;
+        int sides = PLAIN_SIDES;
+        int week = PLAIN_WEEK;
         final Sum sum = new Sum();
         private int at = 0;
 
@@ -465,8 +467,8 @@ public final class SevenOnStrike {
         int readFrom(Text text) {
             figures.clear();
             coinCount = 0;
-            sides = 6;
-            week = 7;
+            sides = PLAIN_SIDES;
+            week = PLAIN_WEEK;
             sum.length = 0;
             at = 0;
             for (int items = 0; items < Text.MOST && at < text.length; items++) {
@@ -546,10 +548,9 @@ public final class SevenOnStrike {
         }
 
         private boolean readSum(Text text) {
-            int most = Math.min(text.length - at, Sum.MOST);
             int inNumber = 0;
             sum.length = 0;
-            for (int i = 0; i < most; i++) {
+            for (int i = 0; i < Sum.MOST; i++) {
                 int letter = text.letterAt(at);
                 if (isDigit(letter)) {
                     inNumber++;
