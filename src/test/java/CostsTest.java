@@ -5,9 +5,12 @@ public final class CostsTest {
 
     public static void main(String[] args) {
         costs();
+        costsOfAllRows();
         dearest();
         bargain();
+        bargainAtItsBounds();
         days();
+        daysFromNowOn();
         daysChangeNothing();
         wrongNumbers();
         Due.end();
@@ -24,6 +27,57 @@ public final class CostsTest {
         Due.is("costs(7, 99)", x.costs(7, 99), 1 + 8 + 9);
         Due.is("costs(7, 9999)", x.costs(7, 9999), 9 + 81 + 729 + 6561 - 8 - 64 - 512 - 4096);
         Due.is("costs(1, 9999)", x.costs(1, 9999), 0);
+    }
+
+    /** Each row of strikes, for the least n and the greatest and some between, number by number. */
+    private static void costsOfAllRows() {
+        int[] upTo = {0, 1, 9, 10, 99, 100, 999, 1000, 9999};
+        int[][] can = new int[upTo.length][1024];
+        for (int strikers = 0; strikers < 1024; strikers++) {
+            int many = 0;
+            int next = 0;
+            for (int n = 0; n <= 9999; n++) {
+                many += (figuresIn(n) & strikers) == 0 ? 1 : 0;
+                if (n == upTo[next]) {
+                    can[next][strikers] = many;
+                    next++;
+                }
+            }
+        }
+        for (int strikers = 0; strikers < 1024; strikers++) {
+            StringBuilder text = new StringBuilder();
+            for (int f = 0; f <= 9; f++) {
+                text.append((strikers >> f & 1) == 1 ? "x" + f + ";" : "");
+            }
+            SevenOnStrike x = Due.laid(text.toString());
+            for (int i = 0; i < upTo.length; i++) {
+                costsAre(text + " for " + upTo[i], x, upTo[i], can[i], strikers);
+            }
+        }
+    }
+
+    private static int figuresIn(int n) {
+        int figures = 1 << n % 10;
+        for (int rest = n / 10; rest > 0; rest /= 10) {
+            figures |= 1 << rest % 10;
+        }
+        return figures;
+    }
+
+    private static void costsAre(String what, SevenOnStrike x, int n, int[] can, int strikers) {
+        int which = 0;
+        int most = -1;
+        for (int f = 0; f <= 9; f++) {
+            int due = can[strikers & ~(1 << f)] - can[strikers];
+            Due.is(what + " costs of " + f, x.costs(f, n), due);
+            which = due > most ? f : which;
+            most = Math.max(most, due);
+            int g = (f + 3) % 10;
+            int others = strikers & ~(1 << f) & ~(1 << g);
+            Due.is(what + " bargain of " + f + " and " + g, x.bargain(f, g, n),
+                can[others | 1 << g] - can[others | 1 << f] + 10000);
+        }
+        dearestIs(x, n, which, most);
     }
 
     private static void dearestIs(SevenOnStrike x, int n, int which, int cost) {
@@ -59,10 +113,45 @@ public final class CostsTest {
         Due.is("count(5)", y.count(5), 0);
     }
 
+    private static void bargainAtItsBounds() {
+        SevenOnStrike x = Due.laid("x1;x2;x3;x4;x5;x6;x7;x8;");
+        Due.is("only 0 works, than only 9", x.bargain(9, 0, 9999), 10000 + 4 - 1);
+        Due.is("only 9 works, than only 0", x.bargain(0, 9, 9999), 10000 - 4 + 1);
+        SevenOnStrike all = Due.laid("x0;x1;x2;x3;x4;x5;x6;x7;x8;x9;");
+        Due.is("one of two works", all.bargain(3, 8, 9999), 10000);
+        Due.is("one of two works, up to 3", all.bargain(3, 8, 3), 10001);
+        Due.is("one of two works, up to 2", all.bargain(3, 8, 2), 10000);
+        Due.is("the other one, up to 3", all.bargain(8, 3, 3), 9999);
+    }
+
+    private static void daysFromNowOn() {
+        for (int z : new int[] {0, 9999}) {
+            SevenOnStrike x = Due.laid("x7;x1;");
+            x.strike(7, 0);
+            x.strike(5, 1);
+            boolean[] strikes = new boolean[10];
+            strikes[1] = true;
+            strikes[5] = true;
+            int without = 0;
+            for (int d = 0; d < 50; d++) {
+                long one = 7919L * z + 6151L * d + 1;
+                int f = (int) (one * one % 65521 / 4 % 10);
+                strikes[f] = !strikes[f];
+                without += strikes[7] ? 1 : 0;
+                Due.is("as things stand: days(" + z + ", " + (d + 1) + ", 0)", x.days(z, d + 1, 0),
+                    saidWithout(strikes));
+                Due.is("as things stand: days(" + z + ", " + (d + 1) + ", 1)", x.days(z, d + 1, 1), without);
+            }
+        }
+        Due.is("z of 0, the day 0: figure 0 changes", Due.laid("").days(0, 1, 0), 9 + 81 + 729);
+        Due.is("7 was on strike at first, and is", new SevenOnStrike().days(0, 1, 1), 1);
+        Due.is("7 was not, and is not", Due.laid("").days(0, 1, 1), 0);
+    }
+
     /** Each day drawn once more, with no strike counted but by its writing. */
     private static void days() {
-        SevenOnStrike x = new SevenOnStrike();
         for (int z : new int[] {0, 1, 2, 77, 1234, 5000, 9998, 9999}) {
+            SevenOnStrike x = new SevenOnStrike();
             boolean[] strikes = new boolean[10];
             strikes[7] = true;
             int without = 0;

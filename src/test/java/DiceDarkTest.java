@@ -6,10 +6,14 @@ public final class DiceDarkTest {
     public static void main(String[] args) {
         odds();
         mean();
+        diceOfAllSides();
         dark();
+        darkIsForgottenByLayAlone();
         darkRefused();
         forget();
         works();
+        eachFigureAndNone();
+        figureByFigure();
         Due.end();
     }
 
@@ -65,6 +69,67 @@ public final class DiceDarkTest {
         }
     }
 
+    /** Each die of 2 to 9 sides with each row of strikes, by a row of all throws. */
+    private static void diceOfAllSides() {
+        for (int sides = 2; sides <= 9; sides++) {
+            for (int strikers = 0; strikers < 1024; strikers++) {
+                StringBuilder text = new StringBuilder("d" + sides + ";");
+                for (int f = 0; f <= 9; f++) {
+                    text.append((strikers >> f & 1) == 1 ? "x" + f + ";" : "");
+                }
+                diceAre(text.toString(), sides, strikers);
+            }
+        }
+    }
+
+    private static void diceAre(String text, int sides, int strikers) {
+        int[] shown = new int[19];
+        int together = 0;
+        for (int a = 1; a <= sides; a++) {
+            int one = (strikers >> a & 1) == 1 ? 0 : a;
+            together += one;
+            for (int b = 1; b <= sides; b++) {
+                shown[one + ((strikers >> b & 1) == 1 ? 0 : b)]++;
+            }
+        }
+        SevenOnStrike x = Due.laid(text);
+        for (int s = 0; s <= 18; s++) {
+            isInLowestTerms(text + " odds of " + s, x.odds(s, 0), x.odds(s, 1), shown[s], sides * sides);
+        }
+        isInLowestTerms(text + " mean", x.mean(0), x.mean(1), together, sides);
+    }
+
+    private static void isInLowestTerms(String what, int above, int below, int dueAbove, int dueBelow) {
+        Due.is(what + ", one by the other's below", above * dueBelow, dueAbove * below);
+        Due.holds(what + " has a below of 1 or more", below >= 1);
+        for (int d = 2; d <= below; d++) {
+            Due.holds(what + " is in lowest terms, not by " + d, above % d != 0 || below % d != 0);
+        }
+    }
+
+    private static void darkIsForgottenByLayAlone() {
+        SevenOnStrike x = new SevenOnStrike();
+        x.dark(7, 6);
+        x.dark(7, 6);
+        x.keep();
+        x.strike(7, 0);
+        Due.is("works", x.works(), 0);
+        x.undo();
+        Due.is("works", x.works(), 2047 - 128);
+        x.standIn(7, 5);
+        Due.is("works", x.works(), 0);
+        x.back();
+        Due.is("works behind back", x.works(), 2047 - 128);
+        x.write('x');
+        x.lay();
+        Due.is("count(4) behind a refused lay", x.count(4), 2);
+        x.wipe();
+        Due.is("count(4) behind wipe", x.count(4), 2);
+        x.lay();
+        Due.is("count(4) behind lay", x.count(4), 0);
+        Due.is("works behind lay", x.works(), 2047);
+    }
+
     private static void dark() {
         SevenOnStrike x = new SevenOnStrike();
         int[] told = {0, 9, 10, 99, 100, 999, 1000, 9999};
@@ -96,6 +161,49 @@ public final class DiceDarkTest {
         Due.is("forget", x.forget(), 2);
         Due.is("works behind it", x.works(), 2047);
         Due.is("dark behind it", x.dark(1, 1), 1);
+    }
+
+    /** All figures strike, the next one stands in: one is told as it is, so that one would have to work. */
+    private static void eachFigureAndNone() {
+        StringBuilder text = new StringBuilder();
+        for (int f = 0; f <= 9; f++) {
+            text.append("x").append(f).append(";f").append(f).append(",").append((f + 1) % 10).append(";");
+        }
+        for (int f = 0; f <= 9; f++) {
+            SevenOnStrike x = Due.laid(text.toString());
+            Due.is("dark", x.dark(f, (f + 1) % 10), 1);
+            Due.is("all but " + f, x.works(), 2047 - (1 << f));
+            x.forget();
+            Due.is("dark", x.dark(f, f), 1);
+            Due.is("only " + f, x.works(), 1 << f);
+            Due.is("dark", x.dark(f, (f + 2) % 10), 2);
+            Due.is("none", x.works(), 0);
+        }
+        SevenOnStrike same = Due.laid("x4;");
+        same.dark(4444, 4444);
+        Due.is("itself stands in: all is so anyway", same.works(), 2047);
+    }
+
+    private static void figureByFigure() {
+        SevenOnStrike x = Due.laid("x1;f1,2;x3;f3,4;");
+        int[][] told = {{1000, 2000}, {9991, 9992}, {9199, 9299}, {9919, 9929}};
+        for (int[] pair : told) {
+            x.dark(pair[0], pair[1]);
+            Due.is("so as it is, not if 1 did work: " + pair[0], x.works(), 2047 - 2);
+            x.forget();
+        }
+        int[][] wrong = {{1000, 1001}, {1000, 3000}, {9991, 9991}, {9999, 9992}, {13, 23}, {13, 14}, {31, 32}};
+        int[] works = {0, 0, 2, 0, 8, 2, 8};
+        for (int i = 0; i < wrong.length; i++) {
+            x.dark(wrong[i][0], wrong[i][1]);
+            Due.is("who would have to work: " + wrong[i][0] + " " + wrong[i][1], x.works(), works[i]);
+            x.forget();
+        }
+        for (int i = 0; i < 7; i++) {
+            x.dark(1, 2);
+        }
+        x.dark(2, 1);
+        Due.is("the eighth counts, too", x.works(), 0);
     }
 
     private static void works() {

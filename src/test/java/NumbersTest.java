@@ -14,35 +14,40 @@ public final class NumbersTest {
         wrongNumbers();
         sums();
         sumsKeptWithin();
+        sumsOnEitherSideOfTheBound();
         sumsHeard();
+        sumsHeardOnEitherSideOfTheBound();
+        heardOnceWhetherItStrikesOrNot();
+        noughtIsWritten();
+        beforeTheFirstAndBehindTheLast();
         sumHeardAsThingsStand();
         Due.end();
     }
 
     /** Every answer about 0 to 99999, against a look at each number's writing. */
     private static void wholeRange(String text) {
-        SevenOnStrike x = Due.laid(text);
+        Fresh x = new Fresh(text);
         String strikers = text.replaceAll("[^0-9]", "");
         int less = 0;
         int before = -1;
         for (int n = 0; n <= MOST; n++) {
             boolean can = String.valueOf(n).chars().noneMatch(f -> strikers.indexOf(f) >= 0);
-            Due.is(text + " said(" + n + ")", x.said(n), can ? 1 : 0);
+            Due.is(text + " said(" + n + ")", x.get().said(n), can ? 1 : 0);
             if (can) {
-                Due.is(text + " kth(" + less + ")", x.kth(less), n);
+                Due.is(text + " kth(" + less + ")", x.get().kth(less), n);
                 for (int m = Math.max(0, before); m < n && m >= 0; m++) {
-                    Due.is(text + " next(" + m + ")", x.next(m), n);
+                    Due.is(text + " next(" + m + ")", x.get().next(m), n);
                 }
                 less++;
                 before = n;
             }
-            Due.is(text + " rank(" + n + ")", x.rank(n), less);
+            Due.is(text + " rank(" + n + ")", x.get().rank(n), less);
         }
         for (int m = Math.max(0, before); m <= MOST; m++) {
-            Due.is(text + " next(" + m + ")", x.next(m), NONE);
+            Due.is(text + " next(" + m + ")", x.get().next(m), NONE);
         }
         for (int k = less; k <= MOST; k++) {
-            Due.is(text + " kth(" + k + ")", x.kth(k), NONE);
+            Due.is(text + " kth(" + k + ")", x.get().kth(k), NONE);
         }
     }
 
@@ -96,6 +101,34 @@ public final class NumbersTest {
         sumIs("9999*9999*21*1-1", 1999999999, 5);
     }
 
+    /** 2000*1000*1000 is the bound itself; each row goes to it, or over it and back. */
+    private static void sumsOnEitherSideOfTheBound() {
+        sumIs("1999*1000*1000", 1999000000, 3);
+        sumIs("2000*1000*1000", 2000000000, 3);
+        sumIs("2000*1000*1000-1", 1999999999, 4);
+        sumIs("2000*1000*1000-1+1", 2000000000, 5);
+        sumIs("2000*1000*1000-1+2", 2000000000, 5);
+        sumIs("2000*1000*1000+1", 2000000000, 4);
+        sumIs("2000*1000*1000+1-1", 1999999999, 5);
+        sumIs("1+2000*1000*1000", 2000000000, 4);
+        sumIs("1+2000*1000*1000-1", 1999999999, 5);
+        sumIs("2001*1000*1000-1", 1999999999, 4);
+        sumIs("1-2001*1000*1000", -1999999999, 4);
+        sumIs("2000*1000*1000*1-1", 1999999999, 5);
+        sumIs("2000*1000*1000*2-1", 1999999999, 5);
+        sumIs("2001*1000*1000*0", 0, 4);
+        sumIs("1-2000*1000*1000", -1999999999, 4);
+        sumIs("0-2000*1000*1000", -2000000000, 4);
+        sumIs("0-2000*1000*1000-1", -2000000000, 5);
+        sumIs("0-2000*1000*1000-1+1", -1999999999, 6);
+        sumIs("0-2000*1000*1000+1-2", -2000000000, 6);
+        sumIs("0-2000*1000*1000+1-1", -2000000000, 6);
+        sumIs("9-1-2000*1000*1000", -1999999992, 5);
+        sumIs("9999*9999*21-9*9*9*9", 2000000000 - 6561, 7);
+        sumIs("9*9*9*9-9999*9999*21", 6561 - 2000000000, 7);
+        sumIs("9999-9999-9999-9999", -19998, 4);
+    }
+
     private static void sumsHeard() {
         SevenOnStrike x = Due.laid("x0;x1;f0,1;f1,2;f3,9;e0010+3;");
         Due.is("noughts ahead are heard, once each", x.sum(1), 1121 + 3);
@@ -106,6 +139,68 @@ public final class NumbersTest {
         Due.is("itself stands in", x.sum(1), 98);
         x = Due.laid("x0;f0,9;e0000*0000*0000-1;");
         Due.is("heard is kept within, too", x.sum(1), 1999999999);
+    }
+
+    private static void sumsHeardOnEitherSideOfTheBound() {
+        SevenOnStrike x = Due.laid("x9;f9,0;e2000*1000*1999-1;");
+        Due.is("worth", x.sum(0), 1999999999);
+        Due.is("heard", x.sum(1), 1999999999);
+        x = Due.laid("x7;f7,2;x3;f3,1;e7*3000*3000*1000+1-1;");
+        Due.is("worth", x.sum(0), 1999999999);
+        Due.is("heard, the bound and one more and one less", x.sum(1), 1999999999);
+        x = Due.laid("x7;f7,2;e0-7*1000*1000-1+1;");
+        Due.is("worth", x.sum(0), -7000000);
+        Due.is("heard", x.sum(1), -2000000);
+        x = Due.laid("x0;f0,9;e1-0000*0000*0000-9+8;");
+        Due.is("worth", x.sum(0), 0);
+        Due.is("heard, below the bound and up again", x.sum(1), -1999999992);
+    }
+
+    private static void heardOnceWhetherItStrikesOrNot() {
+        SevenOnStrike x = Due.laid("x1;x2;x3;f1,2;f2,3;f3,1;f4,9;e1234;");
+        Due.is("each goes round by one, not further", x.sum(1), 2314);
+        x.strike(2, 0);
+        Due.is("2 as it is, 1 as 2 all the same", x.sum(1), 2214);
+        x.strike(4, 1);
+        Due.is("4 as 9, which works", x.sum(1), 2219);
+        x.strike(9, 1);
+        Due.is("4 as 9, which strikes", x.sum(1), 2219);
+        Due.is("worth is not heard", x.sum(0), 1234);
+    }
+
+    private static void noughtIsWritten() {
+        SevenOnStrike x = Due.laid("x0;");
+        Due.is("0 has a nought in it", x.said(0), 0);
+        Due.is("1 has none, not ahead either", x.said(1), 1);
+        Due.is("99999", x.said(99999), 1);
+        Due.is("10000", x.said(10000), 0);
+        Due.is("90909", x.said(90909), 0);
+        Due.is("rank(0)", x.rank(0), 0);
+        Due.is("rank(1)", x.rank(1), 1);
+        Due.is("kth(0)", x.kth(0), 1);
+        Due.is("next(0)", x.next(0), 1);
+        Due.is("next(9)", x.next(9), 11);
+        Due.is("next(9999)", x.next(9999), 11111);
+        SevenOnStrike nine = Due.laid("x9;");
+        Due.is("next(8888)", nine.next(8888), 10000);
+        Due.is("next(88888)", nine.next(88888), NONE);
+        Due.is("next(88887)", nine.next(88887), 88888);
+    }
+
+    private static void beforeTheFirstAndBehindTheLast() {
+        SevenOnStrike all = Due.laid("");
+        Due.is("rank(0)", all.rank(0), 1);
+        Due.is("rank(99999)", all.rank(99999), 100000);
+        Due.is("kth(0)", all.kth(0), 0);
+        Due.is("kth(99999)", all.kth(99999), 99999);
+        Due.is("next(0)", all.next(0), 1);
+        Due.is("next(99998)", all.next(99998), 99999);
+        Due.is("next(99999)", all.next(99999), NONE);
+        all.strike(5, 1);
+        Due.is("rank(99999) as things stand", all.rank(99999), 59049);
+        Due.is("kth(59048)", all.kth(59048), 99999);
+        Due.is("kth(59049)", all.kth(59049), NONE);
+        Due.is("next(49999)", all.next(49999), 60000);
     }
 
     private static void sumHeardAsThingsStand() {

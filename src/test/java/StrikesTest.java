@@ -8,6 +8,9 @@ public final class StrikesTest {
         standIn();
         undo();
         onlyTheLastEightAreUndone();
+        theNinthAndTheEighthOfEachKind();
+        asOftenAsCallsAllow();
+        nothingIsUndoneBehindLayAndBack();
         refusedCallsAreNotUndone();
         undoGoesOnBehindNewChanges();
         Due.end();
@@ -89,6 +92,74 @@ public final class StrikesTest {
         Due.is("count(0)", x.count(0), 2);
         Due.is("figure(0, 0)", x.figure(0, 0), 1);
         Due.is("figure(1, 0)", x.figure(1, 0), 1);
+    }
+
+    /** Of nine changes the first one stays, of eight none does; each kind may be the first. */
+    private static void theNinthAndTheEighthOfEachKind() {
+        for (int changes = 7; changes <= 10; changes++) {
+            SevenOnStrike x = Due.laid("x0;");
+            for (int i = 0; i < changes; i++) {
+                Due.is("who did", x.standIn(5, i), i == 0 ? 5 : i - 1);
+            }
+            int can = Math.min(8, changes);
+            Due.is("can be undone of " + changes, x.count(5), can);
+            for (int left = can - 1; left >= 0; left--) {
+                Due.is("undo of " + changes, x.undo(), left);
+            }
+            Due.is("no more", x.undo(), NO);
+            Due.is("figure(5, 1) of " + changes, x.figure(5, 1), changes <= 8 ? 5 : changes - 9);
+        }
+        SevenOnStrike y = Due.laid("x0;");
+        y.strike(0, 0);
+        for (int f = 1; f <= 7; f++) {
+            y.standIn(f, 0);
+        }
+        for (int left = 7; left >= 0; left--) {
+            Due.is("undo", y.undo(), left);
+        }
+        Due.is("the eighth is undone", y.figure(0, 0), 1);
+        y.strike(0, 0);
+        for (int f = 1; f <= 8; f++) {
+            y.standIn(f, 0);
+        }
+        for (int left = 7; left >= 0; left--) {
+            Due.is("undo", y.undo(), left);
+        }
+        Due.is("no more", y.undo(), NO);
+        Due.is("the ninth is not undone", y.figure(0, 0), 0);
+        Due.is("the eighth was", y.figure(1, 1), 1);
+    }
+
+    private static void asOftenAsCallsAllow() {
+        SevenOnStrike x = new SevenOnStrike();
+        for (int i = 0; i < 500; i++) {
+            Due.is("strike " + i, x.strike(3, 1 - i % 2), 2 - i % 2);
+        }
+        for (int left = 7; left >= 0; left--) {
+            Due.is("undo", x.undo(), left);
+        }
+        Due.is("no more", x.undo(), NO);
+        Due.is("call 510", x.count(5), 0);
+        Due.is("call 511", x.figure(3, 0), 0);
+        Due.is("call 512", x.count(0), 1);
+    }
+
+    private static void nothingIsUndoneBehindLayAndBack() {
+        SevenOnStrike x = Due.laid("x1;");
+        x.keep();
+        x.strike(2, 1);
+        Due.is("back", x.back(), 0);
+        Due.is("nothing is undone", x.undo(), NO);
+        x.standIn(2, 5);
+        Due.is("lay", x.lay(), 1);
+        Due.is("nothing is undone", x.undo(), NO);
+        Due.is("figure(2, 1)", x.figure(2, 1), 2);
+        x.standIn(2, 5);
+        x.write('y');
+        Due.is("lay is refused", x.lay(), NO);
+        Due.is("back is refused", x.back(), NO);
+        Due.is("it is undone then", x.undo(), 0);
+        Due.is("figure(2, 1)", x.figure(2, 1), 2);
     }
 
     private static void refusedCallsAreNotUndone() {

@@ -6,13 +6,18 @@ public final class WaysTest {
 
     public static void main(String[] args) {
         ways();
+        waysOfEachKindWithTheirBounds();
         shortest();
+        shortestOfSeveral();
         shortestIsBadBeforeNone();
         change();
         never();
         pays();
+        coinsThatCanBeNamed();
+        upTo200();
         day();
         agree();
+        weeksOfAllLengths();
         wrongNumbers();
         Due.end();
     }
@@ -37,6 +42,62 @@ public final class WaysTest {
         Due.is("as things stand: ways(0)", ones.ways(0), 1 + 1 + 7 + 8);
         ones.undo();
         Due.is("undone: ways(0)", ones.ways(0), 3);
+    }
+
+    /** Two numbers that can be said, or some few: each way is told behind its row. */
+    private static void waysOfEachKindWithTheirBounds() {
+        SevenOnStrike nines = Due.laid("x0;x1;x2;x3;x4;x5;x6;x7;x8;");
+        Due.is("999: by itself", nines.ways(999), 1);
+        Due.is("0: 9-9, 99-99, 999-999", nines.ways(0), 3);
+        Due.is("18: 9+9, not twice", nines.ways(18), 1);
+        Due.is("108: 9+99, not 99+9 too", nines.ways(108), 1);
+        Due.is("90: 99-9", nines.ways(90), 1);
+        Due.is("900: 999-99", nines.ways(900), 1);
+        Due.is("990: 999-9", nines.ways(990), 1);
+        Due.is("81: 9*9", nines.ways(81), 1);
+        Due.is("891: 9*99, not 99*9 too", nines.ways(891), 1);
+        Due.is("198: 99+99", nines.ways(198), 1);
+        Due.is("9: by itself", nines.ways(9), 1);
+        SevenOnStrike noughts = Due.laid("x1;x2;x3;x4;x5;x6;x7;x8;x9;");
+        Due.is("0: by itself, 0+0, 0*0, but not 0-0", noughts.ways(0), 3);
+        Due.is("1", noughts.ways(1), 0);
+        Due.is("999", noughts.ways(999), 0);
+        SevenOnStrike both = Due.laid("x1;x2;x3;x4;x5;x6;x7;x8;");
+        Due.is("999: by itself, 0+999, 9+990, 90+909, 99+900, but not 999-0", both.ways(999), 5);
+        Due.is("9: by itself, 0+9, 99-90, 909-900, 999-990", both.ways(9), 5);
+        Due.is("0: by itself, 0+0, seven -, eight *", both.ways(0), 1 + 1 + 7 + 8);
+        SevenOnStrike ones = Due.laid("x0;x3;x4;x5;x6;x7;x8;x9;");
+        Due.is("1: by itself, 1*1", ones.ways(1), 1 + waysLess(1) + 1);
+        Due.is("4: 2+2, 2*2", ones.ways(4), 2 + waysLess(4));
+        Due.is("2: by itself, 1+1, 1*2", ones.ways(2), 3 + waysLess(2));
+    }
+
+    /** In how many ways n is a - b of numbers written with 1 and 2 alone. */
+    private static int waysLess(int n) {
+        int many = 0;
+        for (int b = 1; b + n <= 999; b++) {
+            many += String.valueOf(b).matches("[12]+") && String.valueOf(b + n).matches("[12]+") ? 1 : 0;
+        }
+        return many;
+    }
+
+    private static void shortestOfSeveral() {
+        SevenOnStrike x = Due.laid("");
+        shortestIs(x, 1, 1, 0, 1, 0);
+        shortestIs(x, 100, 3, 0, 100, 0);
+        SevenOnStrike seven = Due.laid("x7;");
+        shortestIs(seven, 7, 3, 1, 1, 6);
+        SevenOnStrike fortyFive = Due.laid("x2;x4;x6;x7;x8;x9;");
+        shortestIs(fortyFive, 45, 4, 2, 50, 5);
+        SevenOnStrike twentyFour = Due.laid("x2;");
+        shortestIs(twentyFour, 24, 3, 3, 3, 8);
+        shortestIs(twentyFour, 2, 3, 1, 1, 1);
+        SevenOnStrike noughtsAndNines = Due.laid("x1;x2;x3;x4;x5;x6;x7;x8;");
+        shortestIs(noughtsAndNines, 81, 3, 3, 9, 9);
+        shortestIs(noughtsAndNines, 18, 3, 1, 9, 9);
+        shortestIs(noughtsAndNines, 999, 3, 0, 999, 0);
+        shortestIs(noughtsAndNines, 810, 4, 3, 9, 90);
+        shortestIs(noughtsAndNines, 1, NONE, NONE, NONE, NONE);
     }
 
     private static void shortestIs(SevenOnStrike x, int n, int... want) {
@@ -127,11 +188,70 @@ public final class WaysTest {
         return ways;
     }
 
+    private static void coinsThatCanBeNamed() {
+        SevenOnStrike x = Due.laid("x0;c05;c10;");
+        Due.is("5 is written without a nought", x.change(5), 1);
+        Due.is("10 is not named", x.change(10), 2);
+        Due.is("pays(10)", x.pays(10), 1);
+        x.strike(0, 0);
+        Due.is("10 is named again", x.change(10), 1);
+        Due.is("pays(10) then", x.pays(10), 2);
+        x.strike(5, 1);
+        Due.is("5 is not named", x.change(5), NONE);
+        Due.is("pays(5)", x.pays(5), 0);
+        Due.is("never()", x.never(), 199);
+        Due.is("a coin is told all the same", x.coin(0), 5);
+        SevenOnStrike all = Due.laid(ALL + "c1;c2;c3;");
+        Due.is("none is named: change(0)", all.change(0), 0);
+        Due.is("none is named: pays(0)", all.pays(0), 1);
+        Due.is("none is named: pays(200)", all.pays(200), 0);
+        Due.is("none is named: never()", all.never(), 200);
+    }
+
+    private static void upTo200() {
+        SevenOnStrike big = Due.laid("c99;c98;c97;c96;c95;c94;");
+        Due.is("change(93)", big.change(93), NONE);
+        Due.is("change(94)", big.change(94), 1);
+        Due.is("change(99)", big.change(99), 1);
+        Due.is("change(187)", big.change(187), NONE);
+        Due.is("change(188)", big.change(188), 2);
+        Due.is("change(198)", big.change(198), 2);
+        Due.is("change(199)", big.change(199), NONE);
+        Due.is("change(200)", big.change(200), NONE);
+        Due.is("pays(196) is 98+98, 97+99", big.pays(196), 2);
+        Due.is("pays(198)", big.pays(198), 1);
+        Due.is("never()", big.never(), 200);
+        SevenOnStrike most = Due.laid("c1;c2;");
+        Due.is("change(200)", most.change(200), 100);
+        Due.is("change(199)", most.change(199), 100);
+        Due.is("pays(200)", most.pays(200), 101);
+        Due.is("never()", most.never(), NONE);
+        Due.is("all but 1 are made", Due.laid("c2;c3;").never(), 1);
+        Due.is("200 is made, 199 not", Due.laid("c50;c40;").never(), 199);
+        Due.is("199 is made, 200 not", Due.laid("c99;c67;c33;").never(), lastNotMade(99, 67, 33));
+        Due.is("three coins, far below", Due.laid("c99;c67;c3;").never(), lastNotMade(99, 67, 3));
+    }
+
+    private static int lastNotMade(int a, int b, int c) {
+        for (int n = 200; n >= 1; n--) {
+            boolean made = false;
+            for (int i = 0; i * a <= n; i++) {
+                for (int j = 0; i * a + j * b <= n; j++) {
+                    made |= (n - i * a - j * b) % c == 0;
+                }
+            }
+            if (!made) {
+                return n;
+            }
+        }
+        return NONE;
+    }
+
     private static void day() {
-        SevenOnStrike x = Due.laid("w5;x2;x4;");
+        Fresh x = new Fresh("w5;x2;x4;");
         int[] week = {1, 3, 5};
         for (int n = 0; n <= 9999; n++) {
-            Due.is("day(" + n + ")", x.day(n), week[n % 3]);
+            Due.is("day(" + n + ")", x.get().day(n), week[n % 3]);
         }
         Due.is("0 is no day", Due.laid("w1;x0;").day(9999), 1);
         Due.is("a strike beyond the week", Due.laid("w3;x4;").day(3), 1);
@@ -147,6 +267,39 @@ public final class WaysTest {
         Due.is("w6, 4 left", Due.laid("w6;x1;x2;x0;x9;").agree(), 12);
         Due.is("w1", Due.laid("w1;x0;").agree(), 1);
         Due.is("w1, none left", Due.laid("w1;x1;").agree(), NONE);
+    }
+
+    /** Each week of 1 to 9 days with each row of strikes, its days gone through one by one. */
+    private static void weeksOfAllLengths() {
+        for (int all = 1; all <= 9; all++) {
+            for (int strikers = 0; strikers < 1024; strikers++) {
+                StringBuilder text = new StringBuilder("w" + all + ";");
+                for (int f = 0; f <= 9; f++) {
+                    text.append((strikers >> f & 1) == 1 ? "x" + f + ";" : "");
+                }
+                weekIs(text.toString(), all, strikers);
+            }
+        }
+    }
+
+    private static void weekIs(String text, int all, int strikers) {
+        int[] left = new int[9];
+        int many = 0;
+        for (int d = 1; d <= all; d++) {
+            if ((strikers >> d & 1) == 0) {
+                left[many] = d;
+                many++;
+            }
+        }
+        int agreed = 1;
+        while (many > 0 && (agreed % all != 0 || agreed % many != 0)) {
+            agreed++;
+        }
+        SevenOnStrike x = Due.laid(text);
+        Due.is(text + " agree()", x.agree(), many == 0 ? NONE : agreed);
+        for (int n : new int[] {0, 1, 2, 3, 4, 5, 6, 7, 8, 9, 10, 9998, 9999}) {
+            Due.is(text + " day(" + n + ")", x.day(n), many == 0 ? NONE : left[n % many]);
+        }
     }
 
     private static void wrongNumbers() {
