@@ -207,7 +207,12 @@ public final class SevenOnStrike {
         if (working <= 0) {
             return NONE;
         }
-        return laid.week * working / Numbers.commonDivisor(laid.week, working);
+        for (int weeks = 1; weeks <= working; weeks++) {
+            if (laid.week * weeks % working == 0) {
+                return laid.week * weeks;
+            }
+        }
+        return NONE;
     }
 
     // ---- dice, dark
@@ -922,18 +927,14 @@ public final class SevenOnStrike {
             return n <= MOST_NUMBER ? n : NONE;
         }
 
-        static int commonDivisor(int a, int b) {
-            for (int d = b; d > 1; d--) {
-                if (a % d == 0 && b % d == 0) {
-                    return d;
+        static int lowestTerms(int above, int below, int part) {
+            int term = part == 0 ? above : below;
+            for (int d = below; d > 1; d--) {
+                if (above % d == 0 && below % d == 0) {
+                    return term / d;
                 }
             }
-            return 1;
-        }
-
-        static int lowestTerms(int above, int below, int part) {
-            int divisor = commonDivisor(above, below);
-            return (part == 0 ? above : below) / divisor;
+            return term;
         }
     }
 }

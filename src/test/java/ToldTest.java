@@ -14,6 +14,7 @@ public final class ToldTest {
         lay();
         layRefused();
         theLastOneCounts();
+        nothingOfAnEarlierTextIsLeft();
         figure();
         coin();
         Due.end();
@@ -187,6 +188,40 @@ public final class ToldTest {
         Due.is("count(3)", x.count(3), 4);
         Due.is("sum(0)", x.sum(0), 27);
         Due.is("sum(2)", x.sum(2), 3);
+    }
+
+    private static void nothingOfAnEarlierTextIsLeft() {
+        StringBuilder earlier = new StringBuilder("c1;c2;c3;c4;c5;c6;d9;w9;e1234;");
+        for (int f = 0; f <= 9; f++) {
+            earlier.append("x").append(f).append(";f").append(f).append(",").append((f + 1) % 10).append(";");
+        }
+        for (String ending : new String[] {"", "x10;"}) {
+            for (int lays = 0; lays <= 2; lays++) {
+                SevenOnStrike x = new SevenOnStrike();
+                Due.write(x, earlier + ending);
+                Due.is("fault", x.fault(), ending.isEmpty() ? NONE : earlier.length());
+                for (int i = 0; i < lays; i++) {
+                    Due.is("lay", x.lay(), ending.isEmpty() ? 10 : NO);
+                }
+                x.wipe();
+                isPlain(x, "behind one lay");
+                isPlain(x, "behind two");
+            }
+        }
+    }
+
+    private static void isPlain(SevenOnStrike x, String when) {
+        Due.is("lay of nothing", x.lay(), 0);
+        for (int f = 0; f <= 9; f++) {
+            Due.is(when + ": figure(" + f + ", 0)", x.figure(f, 0), 0);
+            Due.is(when + ": figure(" + f + ", 1)", x.figure(f, 1), f);
+        }
+        Due.is(when + ": coin(0)", x.coin(0), BAD);
+        Due.is(when + ": coins", x.count(1), 0);
+        Due.is(when + ": sides", x.count(2), 6);
+        Due.is(when + ": days of a week", x.count(3), 7);
+        Due.is(when + ": sum(0)", x.sum(0), 0);
+        Due.is(when + ": sum(2)", x.sum(2), 0);
     }
 
     private static void figure() {
