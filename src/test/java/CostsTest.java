@@ -45,11 +45,8 @@ public final class CostsTest {
             }
         }
         for (int strikers = 0; strikers < 1024; strikers++) {
-            StringBuilder text = new StringBuilder();
-            for (int f = 0; f <= 9; f++) {
-                text.append((strikers >> f & 1) == 1 ? "x" + f + ";" : "");
-            }
-            SevenOnStrike x = Due.laid(text.toString());
+            String text = Due.strikes(strikers);
+            SevenOnStrike x = Due.laid(text);
             for (int i = 0; i < upTo.length; i++) {
                 costsAre(text + " for " + upTo[i], x, upTo[i], can[i], strikers);
             }
@@ -129,40 +126,33 @@ public final class CostsTest {
             SevenOnStrike x = Due.laid("x7;x1;");
             x.strike(7, 0);
             x.strike(5, 1);
-            boolean[] strikes = new boolean[10];
-            strikes[1] = true;
-            strikes[5] = true;
-            int without = 0;
-            for (int d = 0; d < 50; d++) {
-                long one = 7919L * z + 6151L * d + 1;
-                int f = (int) (one * one % 65521 / 4 % 10);
-                strikes[f] = !strikes[f];
-                without += strikes[7] ? 1 : 0;
-                Due.is("as things stand: days(" + z + ", " + (d + 1) + ", 0)", x.days(z, d + 1, 0),
-                    saidWithout(strikes));
-                Due.is("as things stand: days(" + z + ", " + (d + 1) + ", 1)", x.days(z, d + 1, 1), without);
-            }
+            daysAre(x, z, 1, 5);
         }
         Due.is("z of 0, the day 0: figure 0 changes", Due.laid("").days(0, 1, 0), 9 + 81 + 729);
         Due.is("7 was on strike at first, and is", new SevenOnStrike().days(0, 1, 1), 1);
         Due.is("7 was not, and is not", Due.laid("").days(0, 1, 1), 0);
     }
 
-    /** Each day drawn once more, with no strike counted but by its writing. */
     private static void days() {
         for (int z : new int[] {0, 1, 2, 77, 1234, 5000, 9998, 9999}) {
-            SevenOnStrike x = new SevenOnStrike();
-            boolean[] strikes = new boolean[10];
-            strikes[7] = true;
-            int without = 0;
-            for (int d = 0; d < 50; d++) {
-                long one = 7919L * z + 6151L * d + 1;
-                int f = (int) (((one * one) % 65521 / 4) % 10);
-                strikes[f] = !strikes[f];
-                without += strikes[7] ? 1 : 0;
-                Due.is("days(" + z + ", " + (d + 1) + ", 0)", x.days(z, d + 1, 0), saidWithout(strikes));
-                Due.is("days(" + z + ", " + (d + 1) + ", 1)", x.days(z, d + 1, 1), without);
-            }
+            daysAre(new SevenOnStrike(), z, 7);
+        }
+    }
+
+    /** Each day drawn once more, with no strike counted but by its writing. */
+    private static void daysAre(SevenOnStrike x, int z, int... strikers) {
+        boolean[] strikes = new boolean[10];
+        for (int f : strikers) {
+            strikes[f] = true;
+        }
+        int without = 0;
+        for (int d = 0; d < 50; d++) {
+            long one = 7919L * z + 6151L * d + 1;
+            int f = (int) (((one * one) % 65521 / 4) % 10);
+            strikes[f] = !strikes[f];
+            without += strikes[7] ? 1 : 0;
+            Due.is("days(" + z + ", " + (d + 1) + ", 0)", x.days(z, d + 1, 0), saidWithout(strikes));
+            Due.is("days(" + z + ", " + (d + 1) + ", 1)", x.days(z, d + 1, 1), without);
         }
     }
 

@@ -73,11 +73,7 @@ public final class DiceDarkTest {
     private static void diceOfAllSides() {
         for (int sides = 2; sides <= 9; sides++) {
             for (int strikers = 0; strikers < 1024; strikers++) {
-                StringBuilder text = new StringBuilder("d" + sides + ";");
-                for (int f = 0; f <= 9; f++) {
-                    text.append((strikers >> f & 1) == 1 ? "x" + f + ";" : "");
-                }
-                diceAre(text.toString(), sides, strikers);
+                diceAre("d" + sides + ";" + Due.strikes(strikers), sides, strikers);
             }
         }
     }

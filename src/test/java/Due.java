@@ -35,6 +35,15 @@ final class Due {
         return length;
     }
 
+    /** The text that tells these figures' strikes, a bit each. */
+    static String strikes(int figures) {
+        StringBuilder text = new StringBuilder();
+        for (int f = 0; f <= 9; f++) {
+            text.append((figures >> f & 1) == 1 ? "x" + f + ";" : "");
+        }
+        return text.toString();
+    }
+
     /** Lays a text on a new object. */
     static SevenOnStrike laid(String text) {
         SevenOnStrike x = new SevenOnStrike();

@@ -273,11 +273,7 @@ public final class WaysTest {
     private static void weeksOfAllLengths() {
         for (int all = 1; all <= 9; all++) {
             for (int strikers = 0; strikers < 1024; strikers++) {
-                StringBuilder text = new StringBuilder("w" + all + ";");
-                for (int f = 0; f <= 9; f++) {
-                    text.append((strikers >> f & 1) == 1 ? "x" + f + ";" : "");
-                }
-                weekIs(text.toString(), all, strikers);
+                weekIs("w" + all + ";" + Due.strikes(strikers), all, strikers);
             }
         }
     }
