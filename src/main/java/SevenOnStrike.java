@@ -420,7 +420,7 @@ public final class SevenOnStrike {
 
         /** 0, which no text holds, behind the last letter. */
         int letterAt(int at) {
-            return isWithin(at, 0, length - 1) ? letters[at] : 0;
+            return at >= 0 && at < length ? letters[at] : 0;
         }
     }
 
